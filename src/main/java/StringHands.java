@@ -79,7 +79,8 @@ public final class StringHands {
         if (n < 0 || n > reader.taped) {
             return CANT_BE;
         }
-        if (!reader.readText(n)) {
+        reader.cutText(n);
+        if (!reader.readLines()) {
             return BAD_TEXT - reader.fault;
         }
         told.takeAll(reader.out);
@@ -761,7 +762,7 @@ public final class StringHands {
     }
 
     private void readyRings() {
-        readyNext();
+        follow.prepare(told, stage, mover);
         follow.prepareRings();
     }
 
@@ -960,7 +961,13 @@ public final class StringHands {
         static final int MOST_WITHIN = 6;
         static final int MOST_DIGITS = 3;
 
+        static final String SIGNS = ";:+-*()[]=<>";
+        /** In the order of their kinds, a blank behind each. */
+        static final String WORDS =
+                "puppet string to times turned need rule up life or and not me pulls ";
+
         /** Kinds of tokens; a sign's kind is its own byte. */
+        static final int BAD = -1;
         static final int END = 0;
         static final int NUMBER = 1;
         static final int OTHER_WORD = 200;
@@ -985,9 +992,13 @@ public final class StringHands {
         int place = NONE;
         final Troupe out = new Troupe();
 
-        private int length;
-        private int start;
-        private int end;
+        /** Of each token: its kind, where it begins, and the value of a number; the last is the end. */
+        private final int[] kinds = new int[MOST_BYTES + 1];
+        private final int[] starts = new int[MOST_BYTES + 1];
+        private final int[] values = new int[MOST_BYTES + 1];
+        private int tokens;
+        /** The token that stands now. */
+        private int at;
         private int kind;
         private int value;
         /** Of the rule that is being read. */
@@ -1001,55 +1012,54 @@ public final class StringHands {
             }
         }
 
-        boolean readText(int n) {
-            length = n;
-            taped = 0;
-            start = 0;
-            end = 0;
-            fault = 0;
-            place = NONE;
-            out.clear();
-            goOn();
-            for (int i = 0; i < MOST_BYTES && fault == 0 && kind != END; i++) {
-                if (readLine() && isKind(';') && goOn()) {
-                    out.lines++;
-                }
-            }
-            return fault == 0;
-        }
-
-        private boolean refuse(int why) {
-            fault = why;
-            place = start;
-            return false;
-        }
-
         // tokens
 
-        private boolean goOn() {
-            start = end;
-            while (start < length && (tape[start] == 10 || tape[start] == 32)) {
-                start++;
+        /** Takes the text off the tape; a bad token is no fault yet, for one ahead of it comes first. */
+        void cutText(int n) {
+            int length = Math.min(n, taped);
+            int i = 0;
+            tokens = 0;
+            for (int t = 0; t < MOST_BYTES && i < length; t++) {
+                i = isBlank(tape[i]) ? i + 1 : cutToken(i, length);
             }
-            end = start;
-            if (start >= length) {
-                kind = END;
-                return true;
+            addToken(END, length, 0);
+            taped = 0;
+        }
+
+        /** Where the token that begins at a place ends. */
+        private int cutToken(int start, int length) {
+            int end = start;
+            int sum = 0;
+            if (isLetter(tape[start])) {
+                while (end < length && isLetter(tape[end])) {
+                    end++;
+                }
+                addToken(wordKind(start, end), start, 0);
+                return end;
             }
-            int sign = tape[start];
-            if (isDigit(sign)) {
-                return takeNumber();
+            if (isDigit(tape[start])) {
+                while (end < length && isDigit(tape[end])) {
+                    sum = sum * 10 + tape[end] - '0';
+                    end++;
+                }
+                addToken(end - start > MOST_DIGITS ? BAD : NUMBER, start, sum);
+                return end;
             }
-            if (isLetter(sign)) {
-                takeWord();
-                return true;
+            addToken(isSign(tape[start]) ? tape[start] : BAD, start, 0);
+            return start + 1;
+        }
+
+        private void addToken(int ofKind, int start, int number) {
+            if (tokens <= MOST_BYTES) {
+                kinds[tokens] = ofKind;
+                starts[tokens] = start;
+                values[tokens] = number;
+                tokens++;
             }
-            if (!isSign(sign)) {
-                return refuse(NO_TOKEN);
-            }
-            kind = sign;
-            end = start + 1;
-            return true;
+        }
+
+        private static boolean isBlank(int sign) {
+            return sign == 10 || sign == 32;
         }
 
         private static boolean isDigit(int sign) {
@@ -1061,87 +1071,51 @@ public final class StringHands {
         }
 
         private static boolean isSign(int sign) {
-            // A byte above 127 is negative here, and no char of the text.
-            return sign > 0 && ";:+-*()[]=<>".indexOf((char) sign) >= 0;
+            // A byte above 127 is negative here, and no sign at all.
+            return sign > 0 && SIGNS.indexOf((char) sign) >= 0;
         }
 
-        private boolean takeNumber() {
-            value = 0;
-            while (end < length && isDigit(tape[end])) {
-                if (end - start >= MOST_DIGITS) {
-                    return refuse(NO_TOKEN);
+        /** The kind is told by the word's place among the words. */
+        private int wordKind(int start, int end) {
+            int kindNow = OTHER_WORD + 1;
+            int begin = 0;
+            for (int i = 0; i < WORDS.length(); i++) {
+                if (WORDS.charAt(i) == ' ') {
+                    if (isWord(start, end, begin, i)) {
+                        return kindNow;
+                    }
+                    kindNow++;
+                    begin = i + 1;
                 }
-                value = value * 10 + tape[end] - '0';
-                end++;
             }
-            kind = NUMBER;
-            return true;
+            return OTHER_WORD;
         }
 
-        private void takeWord() {
-            while (end < length && isLetter(tape[end])) {
-                end++;
-            }
-            kind = lineWord();
-            if (kind == OTHER_WORD) {
-                kind = innerWord();
-            }
-        }
-
-        private int lineWord() {
-            if (isWord("puppet")) {
-                return PUPPET;
-            }
-            if (isWord("string")) {
-                return STRING;
-            }
-            if (isWord("need")) {
-                return NEED;
-            }
-            if (isWord("rule")) {
-                return RULE;
-            }
-            if (isWord("up")) {
-                return UP;
-            }
-            return isWord("life") ? LIFE : OTHER_WORD;
-        }
-
-        private int innerWord() {
-            if (isWord("to")) {
-                return TO;
-            }
-            if (isWord("times")) {
-                return TIMES;
-            }
-            if (isWord("turned")) {
-                return TURNED;
-            }
-            if (isWord("or")) {
-                return OR;
-            }
-            if (isWord("and")) {
-                return AND;
-            }
-            if (isWord("not")) {
-                return NOT;
-            }
-            if (isWord("me")) {
-                return ME;
-            }
-            return isWord("pulls") ? PULLS : OTHER_WORD;
-        }
-
-        private boolean isWord(String word) {
-            if (word.length() != end - start) {
+        private boolean isWord(int start, int end, int begin, int behind) {
+            if (end - start != behind - begin) {
                 return false;
             }
-            for (int i = 0; i < word.length(); i++) {
-                if (word.charAt(i) != tape[start + i]) {
+            for (int i = 0; i < end - start; i++) {
+                if (WORDS.charAt(begin + i) != tape[start + i]) {
                     return false;
                 }
             }
             return true;
+        }
+
+        private boolean goOn() {
+            if (at + 1 < tokens) {
+                at++;
+            }
+            kind = kinds[at];
+            value = values[at];
+            return kind != BAD || refuse(NO_TOKEN);
+        }
+
+        private boolean refuse(int why) {
+            fault = why;
+            place = starts[at];
+            return false;
         }
 
         // Each of these looks at the token that stands now, and refuses it if it is another one.
@@ -1159,23 +1133,43 @@ public final class StringHands {
 
         // Each of these begins at its first token, and leaves the one behind its last.
 
-        private boolean readLine() {
-            switch (kind) {
-                case PUPPET:
-                    return readPuppet();
-                case STRING:
-                    return readString();
-                case NEED:
-                    return readNeed();
-                case RULE:
-                    return readRule();
-                case UP:
-                    return readUp();
-                case LIFE:
-                    return readLife();
-                default:
-                    return refuse(CANT_STAND);
+        /** Reads what cutText() took; false with a fault. */
+        boolean readLines() {
+            fault = 0;
+            place = NONE;
+            out.clear();
+            at = NONE;
+            goOn();
+            for (int i = 0; i < MOST_BYTES && fault == 0 && kind != END; i++) {
+                boolean isRead;
+                switch (kind) {
+                    case PUPPET:
+                        isRead = readPuppet();
+                        break;
+                    case STRING:
+                        isRead = readString();
+                        break;
+                    case NEED:
+                        isRead = readNeed();
+                        break;
+                    case RULE:
+                        isRead = readRule();
+                        break;
+                    case UP:
+                        isRead = readUp();
+                        break;
+                    case LIFE:
+                        isRead = readLife();
+                        break;
+                    default:
+                        isRead = refuse(CANT_STAND);
+                        break;
+                }
+                if (isRead && isKind(';') && goOn()) {
+                    out.lines++;
+                }
             }
+            return fault == 0;
         }
 
         private boolean readPuppet() {
@@ -1470,9 +1464,9 @@ public final class StringHands {
         private static int valueOf(int op, int value, int pose, int l, int pulling) {
             switch (op) {
                 case Reader.OP_UP:
-                    return bitAt(pose, value);
+                    return (pose >> value) & 1;
                 case Reader.OP_ME:
-                    return bitAt(pose, l);
+                    return (pose >> l) & 1;
                 case Reader.OP_PULLS:
                     return pulling;
                 default:
@@ -1492,17 +1486,11 @@ public final class StringHands {
                     return a < b ? 1 : 0;
                 case Reader.OP_MORE:
                     return a > b ? 1 : 0;
-                case Reader.OP_ADD:
-                    return kept((long) a + b);
-                case Reader.OP_SUBTRACT:
-                    return kept((long) a - b);
                 default:
-                    return kept((long) a * b);
+                    break;
             }
-        }
-
-        private static int kept(long v) {
-            return (int) Math.max(-BOUND, Math.min(BOUND, v));
+            long v = op == Reader.OP_ADD ? (long) a + b : op == Reader.OP_SUBTRACT ? (long) a - b : (long) a * b;
+            return v > BOUND ? BOUND : v < -BOUND ? -BOUND : (int) v;
         }
 
         /** A beat with wear: the limbs that moved. */
