@@ -325,13 +325,42 @@ public final class FuzzTest {
         return !wrong;
     }
 
+    /** As many strings as there can be; of the slow searches of the model only a few. */
+    private boolean runWide() {
+        int limbs = 2 + upTo(5);
+        StringBuilder t = new StringBuilder("puppet " + (limbs - 1) + ";puppet 1;");
+        int into = oneIn(2) ? upTo(limbs - 1) : -1;
+        for (int i = 0; i < 16; i++) {
+            int b = into >= 0 && !oneIn(4) ? into : upTo(limbs - 1);
+            int a = (b + 1 + upTo(limbs - 2)) % limbs;
+            t.append("string ").append(a).append(" to ").append(b).append(" times ").append(1 + upTo(2));
+            t.append(oneIn(3) ? " turned;" : ";");
+        }
+        t.append("need 0 ").append(1 + upTo(8)).append(";need 1 ").append(1 + upTo(8)).append(";");
+        t.append(oneIn(3) ? "rule 0 : pulls = " + upTo(20) + ";" : "");
+        tell(t.toString());
+        for (int i = 0; i < 4; i++) {
+            due("leastTangles", x.leastTangles(), m.leastTangles());
+            int k = upTo(15);
+            int l = upTo(limbs - 1);
+            due("cut " + k, x.cut(k), m.cut(k));
+            due("moves " + k + " " + l, x.moves(k, l), m.moves(k, l));
+            due("swap " + l, x.swap(l), m.swap(l));
+        }
+        int l = upTo(limbs - 1);
+        int p = upTo((1 << limbs) - 1);
+        due("free " + l, x.free(l, (l + 1) % limbs), m.free(l, (l + 1) % limbs));
+        due("cure " + p, x.cure(p, 1), m.cure(p, 1));
+        return !wrong;
+    }
+
     public static void main(String[] args) {
         int runs = args.length > 0 ? Integer.parseInt(args[0]) : 400;
         long first = args.length > 1 ? Long.parseLong(args[1]) : 1;
         int bad = 0;
         for (long seed = first; seed < first + runs && bad < 3; seed++) {
             FuzzTest t = new FuzzTest(seed);
-            if (!t.run()) {
+            if (!(seed % 10 == 5 ? t.runWide() : t.run())) {
                 bad++;
                 System.out.println("seed " + seed);
                 int from = Math.max(0, t.said.size() - 60);

@@ -62,6 +62,30 @@ public final class PromiseTest {
     private static final String RING = "puppet 3;string 0 to 1;string 1 to 2;string 2 to 0;";
     private static final String LIMBS_10 = "puppet 6;puppet 4;";
 
+    /** Limbs 0 to 5 count the beats. */
+    private static final String COUNTER = "puppet 6;rule 0 : me = 0;rule 1 : not me = up 0;rule 2 : not me = up 0 * up 1;"
+            + "rule 3 : not me = up 0 * up 1 * up 2;rule 4 : not me = up 0 * up 1 * up 2 * up 3;"
+            + "rule 5 : not me = up 0 * up 1 * up 2 * up 3 * up 4;";
+
+    /**
+     * Limbs 0 to 5 count, limb 6 makes them even, 7 and 8 both see whether they are: with any nudge among
+     * them all begins anew, so that no nudge is a short way.
+     */
+    private static final String GUARDED = LIMBS_10 + seven("string %d to 7;") + seven("string %d to 8;") + "up 7;up 8;"
+            + "rule 0:up 7*up 8*(1-me)=1;rule 1:up 7*up 8=1 and not me=up 0;rule 2:up 7*up 8=1 and not me=up 0*up 1;"
+            + "rule 3:up 7*up 8=1 and not me=up 0*up 1*up 2;rule 4:up 7*up 8=1 and not me=up 0*up 1*up 2*up 3;"
+            + "rule 5:up 7*up 8=1 and not me=up 0*up 1*up 2*up 3*up 4;rule 6:up 7*up 8=1 and not me=1-up 0+up 0*up 1*(1-up 2)"
+            + "+up 0*up 1*up 2*up 3*(1-up 4);rule 7:pulls*(pulls-2)*(pulls-4)*(pulls-6)=0;"
+            + "rule 8:pulls*(pulls-2)*(pulls-4)*(pulls-6)=0;";
+
+    private static String seven(String line) {
+        StringBuilder t = new StringBuilder();
+        for (int l = 0; l < 7; l++) {
+            t.append(String.format(line, l));
+        }
+        return t.toString();
+    }
+
     private static void newObject() {
         promise = 1;
         StringHands x = new StringHands();
@@ -130,10 +154,37 @@ public final class PromiseTest {
         due("16 strings", read(x, "puppet 2;" + "string 0 to 1;".repeat(16)), 17);
         due("ten limbs", read(x, LIMBS_10), 2);
         due("digits", read(x, "puppet 002;life 099;"), 2);
+        due("900 bytes", read(x, "puppet 2;" + "up 0;".repeat(178) + "\n"), 179);
+        due("troupe(0)", x.troupe(0), 0);
+        due("no limbs then", x.count(1), 0);
+        due("ten rules", read(x, LIMBS_10 + tenRules()), 12);
+        due("each has its own", x.next(1), 2);
+        due("rules of an earlier text are gone", read(x, LIMBS_10), 2);
+        due("rules", x.count(7), 0);
+        due("next", x.next(1), 1);
+    }
+
+    private static String tenRules() {
+        StringBuilder t = new StringBuilder();
+        for (int l = 0; l < 10; l++) {
+            t.append("rule ").append(l).append(" : up ").append((l + 9) % 10).append(" = 1;");
+        }
+        return t.toString();
     }
 
     private static void faults() {
         promise = 4;
+        faulty(";".repeat(900), 2, 0);
+        faulty("puppet1;rule0:me" + "*1".repeat(442), 2, 900);
+        faulty("z", 2, 0);
+        faulty("`", 1, 0);
+        faulty("{", 1, 0);
+        faulty("/", 1, 0);
+        faulty("xuppet 1;", 2, 0);
+        faulty("puppex 1;", 2, 0);
+        faulty("up", 2, 2);
+        faulty("puppet 1;rule 0 : mee = 1;", 2, 18);
+        faulty("puppet 1;rule 0 : me == 1;", 2, 22);
         faulty("Puppet 1;", 1, 0);
         faulty("puppet 1;\t", 1, 9);
         faulty("puppet 1;life 1000;", 1, 14);
@@ -281,6 +332,19 @@ public final class PromiseTest {
         due("moves(-1, 0)", x.moves(-1, 0), -2);
         x.cut(0);
         due("moves of one that is not whole", x.moves(0, 0), 2);
+        due("undone ones", x.undo(1), 9);
+        due("from", x.string(0, 0), 2);
+        StringHands y = told(RING);
+        y.beat(1);
+        y.cut(0);
+        due("a tie", y.tie(0), 3);
+        due("can be undone", y.undo(1), 2);
+        due("it is cut", y.string(0, 4), 0);
+        due("poses that follow by strings as they are", y.gardens(), 4);
+        y.tie(0);
+        due("and tied", y.gardens(), 0);
+        y.moves(0, 2);
+        due("and from another limb", y.gardens(), 4);
     }
 
     /** What wears, breaks, and is whole again. */
@@ -559,7 +623,21 @@ public final class PromiseTest {
         due("wait, nudges", wait.soonest(15, 1), 2);
         due("wait, first", wait.soonest(15, 10), 0);
         due("wait, second", wait.soonest(15, 11), 2);
+        StringHands far = told(GUARDED);
+        due("one beat on", far.next(384), 1 + 64 + 384);
+        due("40 beats", far.soonest(40 + 384, 0), 40);
+        due("40 beats, nudges", far.soonest(40 + 384, 1), 0);
+        due("40 beats, the last", far.soonest(40 + 384, 49), -1);
+        due("with a limb beside, the last", far.soonest(40 + 384 + 512, 49), 9);
+        due("with a limb beside, the first", far.soonest(40 + 384 + 512, 10), -1);
+        due("with a limb beside, nudges", far.soonest(40 + 384 + 512, 1), 1);
+        due("41 beats", far.soonest(41 + 64 + 384, 0), -1);
         promise = 27;
+        StringHands count = told(COUNTER);
+        due("60 beats", count.wakes(60), 100);
+        due("61 beats", count.wakes(61), 0);
+        due("63 beats", count.wakes(63), 2);
+        due("64 beats", count.wakes(0), 2);
         due("wakes(2)", x.wakes(2), 100);
         due("wakes(1)", x.wakes(1), 100);
         due("wakes(0)", x.wakes(0), 0);
@@ -588,6 +666,11 @@ public final class PromiseTest {
         pulled.cut(2);
         due("strings as they are", pulled.cure(1, 0), 0);
         due("all are cut", pulled.cure(3, 1), 3);
+        String thick = "puppet 2;" + "string 0 to 1 times 3;".repeat(16);
+        due("48 pulls", told(thick + "rule 1 : pulls = 48;").cure(3, 0), 0);
+        due("none of 48", told(thick + "rule 1 : pulls = 0;").cure(3, 1), 65535);
+        due("45 of 48", told(thick + "rule 1 : pulls = 45;").cure(3, 1), 1);
+        due("by needs", told(thick + "need 1 9;").cure(1, 1), (1 << 14) - 1);
     }
 
     private static void handsAndStrings() {
@@ -688,6 +771,13 @@ public final class PromiseTest {
         due("eight limbs", told("puppet 6;puppet 2;").leastTangles(), -4);
         due("seven limbs", told("puppet 6;puppet 1;string 0 to 6;string 1 to 5;string 2 to 4;").leastTangles(), 0);
         due("one limb", told("puppet 1;").leastTangles(), 0);
+        // Each of eight strings there tangles with each of eight back, whatever the places.
+        due("64 pairs", told("puppet 2;" + "string 0 to 1;string 1 to 0;".repeat(8)).leastTangles(), 64);
+        // Six limbs in three pairs, there and back; beside one another no pair tangles with another one.
+        String there = "string 0 to 3;string 3 to 0;string 1 to 4;string 4 to 1;string 2 to 5;string 5 to 2;";
+        due("three pairs lie through one another", told("puppet 6;" + there).tangles(), 9);
+        due("three pairs", told("puppet 6;" + there).leastTangles(), 3);
+        due("three pairs twice", told("puppet 6;" + there + there).leastTangles(), 12);
     }
 
     private static void twoHands() {
