@@ -586,7 +586,21 @@ public final class PromiseTest {
         due("farthest()", x.farthest(), 1);
         due("of ten limbs", told(LIMBS_10).farthest(), 0);
         promise = 21;
+        StringHands ten = told(LIMBS_10 + tenRules());
+        // Poses of ten limbs go round by one limb a beat.
         due("of ten limbs", told(LIMBS_10).rests(1023), 1023);
+        due("of ten limbs that go round", ten.rests(-1), 2);
+        promise = 22;
+        due("rings of ten limbs", ten.rings(-1), 108);
+        due("the last", ten.rings(107), 1023);
+        promise = 23;
+        due("basin of ten limbs", ten.basin(1023), 1);
+        due("basin of ten limbs", ten.basin(512), 10);
+        promise = 24;
+        due("gardens of ten limbs", ten.gardens(), 0);
+        due("one limb that rules all", told(LIMBS_10 + tenRules().replaceAll("up .", "up 9")).gardens(), 1022);
+        promise = 19;
+        due("all the way", ten.later(1023, 9999), 1023);
         x.cut(0);
         due("strings as they are", x.rests(-1), 2);
         due("next", x.rests(1), 7);
