@@ -232,6 +232,22 @@ public final class PromiseTest {
         faulty("puppet 1;rule 0 : not [ not [ ( ( ( me ) ) ) = 1 ] ];", 4, 34);
         faulty("puppet 1;rule 0 : [[[[[[[", 4, 24);
         faulty("puppet 1;rule 0 : [[[[[[;", 2, 24);
+        faulty("puppet 1;rule 0 : [ me = 1 or A", 1, 30);
+        faulty("puppet 1;rule 0 : [ me = 1 and A", 1, 31);
+        faulty("puppet 1;rule 0 : [ me = A", 1, 25);
+        faulty("puppet 1;rule 0 : [ ( me + A", 1, 27);
+        faulty("puppet 1;rule 0 : [ ( me * A", 1, 27);
+        faulty("puppet 1;rule 0 : [ me = 1 or [ up 1", 3, 35);
+        faulty("puppet 1;rule 0 : [ me = 1 and ( up 1", 3, 36);
+        StringHands cut = new StringHands();
+        feedText(cut, "life 12;up");
+        due("a word is cut by n", cut.troupe(3), -32);
+        due("its place", cut.fault(1), 0);
+        feedText(cut, "life 12;up");
+        due("a number is cut by n", cut.troupe(6), -32);
+        due("the end", cut.fault(1), 6);
+        feedText(cut, "life 12;up");
+        due("what is behind n is not read", cut.troupe(8), 1);
         StringHands x = told("puppet 1;rule 0 : not [ not [ ( ( me ) ) = 1 ] ] and not [ not [ ( ( me ) ) = 1 ] ];");
         due("six stand beside six", x.next(1), 1);
         due("fault(0)", x.fault(0), 0);
@@ -599,6 +615,11 @@ public final class PromiseTest {
         promise = 24;
         due("gardens of ten limbs", ten.gardens(), 0);
         due("one limb that rules all", told(LIMBS_10 + tenRules().replaceAll("up .", "up 9")).gardens(), 1022);
+        StringHands thick = told("puppet 2;" + "string 0 to 1;".repeat(16));
+        due("gardens by 16 strings", thick.gardens(), 2);
+        due("gardens asked again", thick.gardens(), 2);
+        thick.moves(15, 0);
+        due("gardens as they were", thick.gardens(), 2);
         promise = 19;
         due("all the way", ten.later(1023, 9999), 1023);
         x.cut(0);
@@ -937,6 +958,10 @@ public final class PromiseTest {
         due("none", told("life 1;" + RING).breaks(0), -1);
         x = told("life 67;puppet 2;string 0 to 1;rule 0 : me = 0;");
         due("67", x.breaks(0), 66);
+        // Limb 2 moves in every fourth beat: from 0 first behind beat 3, from 3 first behind beat 0.
+        due("the last of 200 beats", told(COUNTER + "string 2 to 3;life 50;").breaks(0), 199);
+        due("one behind them", told(COUNTER + "string 2 to 3;life 51;up 0;up 1;").breaks(0), -1);
+        due("one behind them, its string", told(COUNTER + "string 2 to 3;life 51;up 0;up 1;").breaks(1), -1);
     }
 
     private static void numberRows() {
