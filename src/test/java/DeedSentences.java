@@ -66,8 +66,7 @@ final class DeedSentences extends Sentences {
         due("strings from 2", x.limb(2, 3), 0);
         due("strings from 1", x.limb(1, 3), 2);
         sentence(5, "-2.");
-        int[] bad = {-1, 3, 10, Integer.MIN_VALUE, Integer.MAX_VALUE};
-        for (int l : bad) {
+        for (int l : NO_LIMBS) {
             leaves("limb(" + l + ", 0)", y -> y.limb(l, 0), -2);
         }
         int[] badWhat = {-1, 9, Integer.MIN_VALUE, Integer.MAX_VALUE};
@@ -91,8 +90,7 @@ final class DeedSentences extends Sentences {
         x.cut(0);
         due("one that is cut", x.string(0, 4), 0);
         sentence(6, "-2.");
-        int[] bad = {-1, 3, 16, Integer.MIN_VALUE, Integer.MAX_VALUE};
-        for (int k : bad) {
+        for (int k : NO_STRINGS) {
             leaves("string(" + k + ", 0)", y -> y.string(k, 0), -2);
         }
         int[] badWhat = {-1, 6, Integer.MIN_VALUE, Integer.MAX_VALUE};
@@ -113,8 +111,7 @@ final class DeedSentences extends Sentences {
         due("the pose", x.count(4), 5);
         due("no string wears", x.string(2, 5), 0);
         sentence(7, "-2.");
-        int[] bad = {-1, 3, 10, 32, Integer.MIN_VALUE, Integer.MAX_VALUE};
-        for (int l : bad) {
+        for (int l : NO_LIMBS) {
             leaves("nudge(" + l + ")", y -> y.nudge(l), -2);
         }
         leaves("nudge(10) of ten", () -> told(LIMBS_10), y -> y.nudge(10), -2);
@@ -140,8 +137,7 @@ final class DeedSentences extends Sentences {
         leaves("the pose as it is", y -> y.strike(y.count(4)), 0);
         due("no limbs", new StringHands().strike(0), 0);
         sentence(8, "-3: it has others than LIMBS.");
-        int[] bad = {-1, 8, 15, 1024, Integer.MIN_VALUE, Integer.MAX_VALUE};
-        for (int p : bad) {
+        for (int p : NO_POSES) {
             leaves("strike(" + p + ")", y -> y.strike(p), -3);
         }
         leaves("strike(1024) of ten", () -> told(LIMBS_10), y -> y.strike(1024), -3);
@@ -267,6 +263,11 @@ final class DeedSentences extends Sentences {
         holds("1 = 1", true);
         holds("2 = 1", false);
         holds("1 = 2", false);
+        holds("1 < 2 and 1 = 1", true);
+        holds("1 = 1 and 2 > 1", true);
+        holds("not 1 < 2", false);
+        holds("not 2 > 1", false);
+        holds("not 1 = 1", false);
         sentence(9, "TRUTH: BOTH { or BOTH }; BOTH: UNIT { and UNIT }");
         holds("1 = 1 or 1 = 1 and 1 = 2", true);
         holds("1 = 2 and 1 = 1 or 1 = 1", true);
@@ -282,7 +283,7 @@ final class DeedSentences extends Sentences {
         holds("not [ 1 = 2 and 1 = 2 ]", true);
         holds("not not 1 = 2", false);
         holds("not not not not not not 1 = 1", true);
-        holds("[[[[[[ ((((((1)))))) = 2 ]]]]]] or 1 = 1".replace("((((((1))))))", "1"), true);
+        holds("[[[[[[ 1 = 2 ]]]]]] or 1 = 1", true);
         holds("1 = 1 and [ 1 = 2 or 1 = 1 and [ 1 = 2 or 1 = 1 and [ 1 = 2 or 1 = 1 and [ 1 = 2 or 1 = 1 and 1 + 1 * 1 = 2 ] ] ] ]", true);
         holds("1 + 2 * ( 1 + 2 * ( 1 + 2 * ( 1 + 2 * ( 1 + 2 * ( 1 + 2 * ( 1 + 2 ) ) ) ) ) ) = 255", true);
     }
@@ -360,8 +361,7 @@ final class DeedSentences extends Sentences {
         due("limb 2 stays as it is", x.next(4), 5);
         due("the pose stays", x.count(4), 2);
         sentence(10, "-2; -5: it isn't WHOLE.");
-        int[] bad = {-1, 3, 16, 32, Integer.MIN_VALUE, Integer.MAX_VALUE};
-        for (int k : bad) {
+        for (int k : NO_STRINGS) {
             leaves("cut(" + k + ")", y -> y.cut(k), -2);
         }
         leaves("one that was cut", y -> y.cut(1), -5);
@@ -398,8 +398,7 @@ final class DeedSentences extends Sentences {
         x.beat(1);
         due("and breaks again", x.string(0, 4), 0);
         sentence(11, "-2; -5: it is WHOLE.");
-        int[] bad = {-1, 3, 16, Integer.MIN_VALUE, Integer.MAX_VALUE};
-        for (int k : bad) {
+        for (int k : NO_STRINGS) {
             leaves("tie(" + k + ")", y -> y.tie(k), -2);
         }
         leaves("one that is whole", y -> y.tie(0), -5);
@@ -422,12 +421,10 @@ final class DeedSentences extends Sentences {
         due("its wear stays", x.string(0, 5), 1);
         due("the tenth limb", told(LIMBS_10 + "string 0 to 1;").moves(0, 9), 0);
         sentence(12, "-2: the string, the LIMB");
-        int[] badString = {-1, 3, 16, Integer.MIN_VALUE, Integer.MAX_VALUE};
-        for (int k : badString) {
+        for (int k : NO_STRINGS) {
             leaves("moves(" + k + ", 0)", y -> y.moves(k, 0), -2);
         }
-        int[] badLimb = {-1, 3, 10, Integer.MIN_VALUE, Integer.MAX_VALUE};
-        for (int l : badLimb) {
+        for (int l : NO_LIMBS) {
             leaves("moves(0, " + l + ")", y -> y.moves(0, l), -2);
         }
         sentence(12, "-5: the LIMB is the one it goes to, or comes from.");
@@ -491,6 +488,17 @@ final class DeedSentences extends Sentences {
         due("pose", x.count(4), 1);
         due("one is left", x.undo(1), 0);
         due("pose", x.count(4), 0);
+        x = told(LIMBS_10);
+        for (int l = 0; l < 10; l++) {
+            x.nudge(l);
+        }
+        x.nudge(0);
+        x.nudge(1);
+        int[] poses = {1022, 1023, 511, 255, 127, 63, 31, 15, 7, 3};
+        for (int i = 0; i < 10; i++) {
+            due("one by one", x.undo(1), 9 - i);
+            due("pose", x.count(4), poses[i]);
+        }
         sentence(14, "10 at most (eldest are forgotten)");
         x = told(RING);
         for (int i = 0; i < 13; i++) {
@@ -594,6 +602,8 @@ final class DeedSentences extends Sentences {
         due("why", x.judge(0, 1), 0);
         due("pose", x.judge(0, 2), 7);
         due("whole", x.judge(0, 3), 1);
+        fill(x, 0, 7);
+        due("one that can't be", x.judge(0, 1), 1);
         fill(x, 0);
         due("no deeds", x.judge(0, 0), -1);
         due("no deeds: why", x.judge(0, 1), 0);
@@ -603,8 +613,7 @@ final class DeedSentences extends Sentences {
         x.write(0, 39, 3);
         due("the fortieth", x.judge(0, 0), 39);
         sentence(15, "-2: the ROW, what; -6.");
-        int[] badRow = {-1, 4, Integer.MIN_VALUE, Integer.MAX_VALUE};
-        for (int row : badRow) {
+        for (int row : NO_ROWS) {
             leaves("judge(" + row + ", 0)", y -> y.judge(row, 0), -2);
         }
         int[] badWhat = {-1, 4, Integer.MIN_VALUE, Integer.MAX_VALUE};
@@ -693,8 +702,7 @@ final class DeedSentences extends Sentences {
         due("one call", x.count(5), 3);
         due("the row stays", x.perform(0), 40);
         sentence(16, "-2; -6.");
-        int[] bad = {-1, 4, Integer.MIN_VALUE, Integer.MAX_VALUE};
-        for (int row : bad) {
+        for (int row : NO_ROWS) {
             leaves("perform(" + row + ")", y -> y.perform(row), -2);
         }
         leaves("perform(3)", y -> y.perform(3), -6);
@@ -774,6 +782,7 @@ final class DeedSentences extends Sentences {
             StringHands x = told(RING + "life 1;");
             due("a nudge by " + seed, x.season(seed, 1), 1 << drawn(seed, 2) % 3);
             due("it wears nothing", x.count(3), 3);
+            due("one limb", told("puppet 1;").season(seed, 1), 1);
         }
         sentence(17, "1 (if there are strings) string DRAW modulo strings: CUT if it is WHOLE, else TIED");
         for (int i = 0; i < 2; i++) {
@@ -788,7 +797,10 @@ final class DeedSentences extends Sentences {
             x.season(seed, 1);
             due("tied by " + seed, x.string(k, 4), 1);
             due("its wear", x.string(k, 5), 0);
-            due("the pose stays", x.count(4), 5 ^ 0);
+            due("the pose stays", x.count(4), 5);
+            x = told("puppet 2;string 0 to 1;");
+            x.season(seed, 1);
+            due("one string", x.count(3), 0);
         }
         sentence(17, "else a BEAT.");
         for (int rest = 2; rest < 4; rest++) {

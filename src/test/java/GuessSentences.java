@@ -1,8 +1,5 @@
 /** Promises 38 to 45: two hands, power, what a film tells, what breaks. */
 final class GuessSentences extends Sentences {
-    private static final String COUNTER = "puppet 6;rule 0 : me = 0;rule 1 : not me = up 0;rule 2 : not me = up 0 * up 1;"
-            + "rule 3 : not me = up 0 * up 1 * up 2;rule 4 : not me = up 0 * up 1 * up 2 * up 3;"
-            + "rule 5 : not me = up 0 * up 1 * up 2 * up 3 * up 4;";
     /** A scene: limb 2 is told to be up. */
     private static final int UP_2 = 4 * 1024 + 4;
     /** A scene: limb 2 is told to be down. */
@@ -67,6 +64,10 @@ final class GuessSentences extends Sentences {
         two("first up, other down", told(RING + "up 0;"), asked(0, 1025, 1, 2048), 1, 2, 60, 60);
         two("other down, first up", told(RING + "up 0;"), asked(1, 2048, 0, 1025), 2, 1, 60, 60);
         two("what each has", told("puppet 2;"), asked(0, 1025, 1, 1024), 1, 0, 60, 0);
+        StringHands x = told("puppet 2;");
+        for (int i = 0; i < 14; i++) {
+            due("asked again and again", x.two(0, 1025, 1, i % 2 == 0 ? 1024 : 1025, 3), i % 2 == 0 ? 0 : 60);
+        }
         leaves("two(0, 1025, 1, 2048, 0)", y -> y.two(0, 1025, 1, 2048, 0) < -1 ? -2 : 0, 0);
     }
 
@@ -82,13 +83,18 @@ final class GuessSentences extends Sentences {
         two("0 1 is ahead of 0 2", told("puppet 4;rule 2 : up 1 = 1;rule 3 : up 1 = 0;rule 1 : 1 = 2;"),
                 asked(0, 0, 1, (8 + 4) * 1024 + 4), 0, 1, 60, 60);
         sentence(38, "NONE: none AT REST");
+        // Limb 3 lags behind 0, so that they differ only if 0 is left: then the other would be down, else as 0 is.
+        String leave = "puppet 5;rule 0 : me = 0;string 0 to 3;"
+                + "rule 2 : [ up 1 = 1 and not up 0 = up 3 ] or [ up 1 = 0 and up 0 + up 3 = 2 ];"
+                + "rule 4 : [ up 1 = 0 and not up 0 = up 3 ] or [ up 1 = 1 and up 0 + up 3 = 2 ];";
+        two("the first would leave it", told(leave), asked(0, UP_2, 1, 16 * 1024 + 16), -1, -1, -1, -1);
+        two("the other would leave it", told(leave), asked(1, 16 * 1024 + 16, 0, UP_2), -1, -1, -1, -1);
         two("one would be like, the other unlike", told("puppet 3;rule 2 : up 0 = up 1;"), asked(0, UP_2, 1, DOWN_2), -1, -1, -1, -1);
     }
 
     private static void twoRefused() {
         sentence(38, "-2: a LIMB, both one, what; -3: a scene that can't be (as in a SCRIPT).");
-        int[] badLimb = {-1, 3, 10, Integer.MIN_VALUE, Integer.MAX_VALUE};
-        for (int l : badLimb) {
+        for (int l : NO_LIMBS) {
             leaves("two(" + l + ", ..)", y -> y.two(l, 0, 1, 0, 0), -2);
             leaves("two(0, 0, " + l + ", ..)", y -> y.two(0, 0, l, 0, 0), -2);
         }
@@ -129,10 +135,12 @@ final class GuessSentences extends Sentences {
         due("99 beats", long8.power(7, 99), 2 * (128 - 99));
         due("no beats", long8.power(7, 0), 256);
         due("ten limbs", told(LIMBS_10).power(9, 99), 1024);
-        leaves("power(0, 3)", y -> y.power(2, 3), 8);
+        x = told(RING);
+        due("gardens ahead", x.gardens(), 0);
+        due("power(0, 0) behind", x.power(0, 0), 8);
+        leaves("power(2, 3)", y -> y.power(2, 3), 8);
         sentence(39, "-2; -3: n isn't 0 to 99.");
-        int[] badLimb = {-1, 3, 10, Integer.MIN_VALUE, Integer.MAX_VALUE};
-        for (int l : badLimb) {
+        for (int l : NO_LIMBS) {
             leaves("power(" + l + ", 0)", y -> y.power(l, 0), -2);
         }
         int[] badCount = {-1, 100, Integer.MIN_VALUE, Integer.MAX_VALUE};
@@ -196,12 +204,10 @@ final class GuessSentences extends Sentences {
     }
 
     private static void refused(String call, Asked asked) {
-        int[] badRow = {-1, 4, Integer.MIN_VALUE, Integer.MAX_VALUE};
-        for (int row : badRow) {
+        for (int row : NO_ROWS) {
             leaves(call + "(" + row + ", 0)", y -> asked.answer(y, row, 0), -2);
         }
-        int[] badLimb = {-1, 3, 10, Integer.MIN_VALUE, Integer.MAX_VALUE};
-        for (int l : badLimb) {
+        for (int l : NO_LIMBS) {
             leaves(call + "(2, " + l + ")", y -> asked.answer(y, 2, l), -2);
         }
         leaves(call + " of a row that is missing", y -> asked.answer(y, 3, 0), -6);
@@ -263,6 +269,9 @@ final class GuessSentences extends Sentences {
         StringHands either = filmed(three, 1, 4, 2, 4, 0, 0);
         due("either is enough", either.fewest(0, 2, 0), 3);
         due("need one", either.fewest(0, 2, 1), 1);
+        fill(both, 0, 0, 0);
+        due("another film", both.fewest(0, 2, 0), 1);
+        due("another limb", both.fewest(0, 0, 0), 2);
         sentence(41, "NONE: none FITS");
         due("none fits", filmed(three, 0, 1).fewest(0, 0, 0), -1);
         due("none fits", filmed(three, 0, 1).fewest(0, 0, 1), -1);
@@ -278,6 +287,9 @@ final class GuessSentences extends Sentences {
         due("both of one guess", filmed(three, 1, 4, 0).sure(0, 1), 5);
         due("both of one guess", filmed(three, 1, 0, 2, 0, 3, 4).sure(0, 2), 3);
         due("nine of ten", filmed(LIMBS_10, 510, 0, 509, 0, 507, 0, 503, 0, 495, 0, 479, 0, 447, 0, 383, 0, 255, 0, 511, 512).sure(0, 9), 511);
+        StringHands x = filmed(three, 1, 4, 0);
+        due("one limb", x.sure(0, 1), 5);
+        due("another limb", x.sure(0, 2), 1);
         sentence(42, "NONE: none FITS");
         due("none fits", filmed(three, 0, 1).sure(0, 0), -1);
         due("one limb", filmed("puppet 1;", 0, 0).sure(0, 0), -1);
@@ -293,6 +305,12 @@ final class GuessSentences extends Sentences {
         // A pose with k others up tells 256 k of 2304 to be up: 4 and 5 are like ones.
         due("four limbs of nine, the least", filmed(LIMBS_10, 0, 0).telling(0, 9), 15);
         due("four limbs of nine, the least", filmed(LIMBS_10, 0, 0).telling(0, 0), 30);
+        // 4 with 0 and 1 as they like, by need 1; and these with 3, by need 2: 0 and 1 tell four of eight.
+        due("some need two", filmed("puppet 5;", 12, 24, 31).telling(0, 2), 3);
+        StringHands x = filmed(three, 1, 4, 0);
+        due("one limb", x.telling(0, 0), 2);
+        fill(x, 0, 0, 0);
+        due("another film", x.telling(0, 2), 1);
         due("strings as they are tell nothing", filmed(RING + "up 1;", 0, 0).telling(0, 0), 2);
         sentence(43, "TELLING: the POSE.");
         due("two fit: 1 or 3 with 1", filmed(three, 1, 4, 0).telling(0, 2), 2);
@@ -358,8 +376,7 @@ final class GuessSentences extends Sentences {
         due("255 is cut to a beat", x.judge(0, 1), 0);
         due("no limbs", filmed("", 1, 1).film(0), 2);
         sentence(44, "-2; -6.");
-        int[] bad = {-1, 4, Integer.MIN_VALUE, Integer.MAX_VALUE};
-        for (int row : bad) {
+        for (int row : NO_ROWS) {
             leaves("film(" + row + ")", y -> y.film(row), -2);
         }
         leaves("film(3)", y -> y.film(3), -6);

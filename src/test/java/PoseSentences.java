@@ -5,10 +5,6 @@ final class PoseSentences extends Sentences {
     /** Each limb takes over from the one ahead of it, limb 0 goes down: NEXT is twice the pose. */
     private static final String DRAIN = LIMBS_10 + "rule 0 : 1 = 2;string 0 to 1;string 1 to 2;string 2 to 3;string 3 to 4;"
             + "string 4 to 5;string 5 to 6;string 6 to 7;string 7 to 8;string 8 to 9;";
-    /** Limbs 0 to 5 count the beats. */
-    private static final String COUNTER = "puppet 6;rule 0 : me = 0;rule 1 : not me = up 0;rule 2 : not me = up 0 * up 1;"
-            + "rule 3 : not me = up 0 * up 1 * up 2;rule 4 : not me = up 0 * up 1 * up 2 * up 3;"
-            + "rule 5 : not me = up 0 * up 1 * up 2 * up 3 * up 4;";
 
     static void all() {
         next();
@@ -55,8 +51,7 @@ final class PoseSentences extends Sentences {
         due("ten limbs", told(wheel()).next(512), 1);
         leaves("next(1)", y -> y.next(1), 3);
         sentence(18, "-3.");
-        int[] bad = {-1, 8, 1024, Integer.MIN_VALUE, Integer.MAX_VALUE};
-        for (int p : bad) {
+        for (int p : NO_POSES) {
             leaves("next(" + p + ")", y -> y.next(p), -3);
         }
         due("next(1024) of ten", told(LIMBS_10).next(1024), -3);
@@ -74,8 +69,7 @@ final class PoseSentences extends Sentences {
         due("no limbs", new StringHands().later(0, 9999), 0);
         leaves("later(1, 9)", y -> y.later(1, 9), 3);
         sentence(19, "-3.");
-        int[] badPose = {-1, 8, Integer.MIN_VALUE, Integer.MAX_VALUE};
-        for (int p : badPose) {
+        for (int p : NO_POSES) {
             leaves("later(" + p + ", 0)", y -> y.later(p, 0), -3);
         }
         int[] badCount = {-1, 10000, Integer.MIN_VALUE, Integer.MAX_VALUE};
@@ -94,12 +88,17 @@ final class PoseSentences extends Sentences {
             due("lead of " + p[0], x.round(p[0], 1), 0);
             due("least pose of the ring of " + p[0], x.round(p[0], 2), p[2]);
         }
+        x = told("puppet 2;rule 0 : 1 = 1;rule 1 : up 0 * up 1 = 0;");
+        due("one that comes to 3 first: its least pose", x.round(0, 2), 1);
         sentence(20, "LEAD of a POSE: BEATS till it is in a RING.");
         x = told(DRAIN);
         due("one that rests", x.round(0, 1), 0);
         due("one ahead of it", x.round(512, 1), 1);
         due("ten ahead of it", x.round(1, 1), 10);
         due("nine ahead of it", x.round(2, 1), 9);
+        x.strike(1);
+        due("a ring in its place", read(x, RING), 4);
+        due("in it", x.round(1, 1), 0);
         sentence(20, "Of a POSE, what 0: LENGTH of the RING it comes to, 1: its LEAD, 2: the RING's LEAST POSE.");
         x = told(FORK);
         int[][] want = {{1, 0, 0}, {2, 1, 2}, {2, 0, 2}, {1, 1, 7}, {1, 1, 0}, {2, 0, 2}, {2, 1, 2}, {1, 0, 7}};
@@ -115,8 +114,7 @@ final class PoseSentences extends Sentences {
         for (int what : badWhat) {
             leaves("round(0, " + what + ")", y -> y.round(0, what), -2);
         }
-        int[] badPose = {-1, 8, Integer.MIN_VALUE, Integer.MAX_VALUE};
-        for (int p : badPose) {
+        for (int p : NO_POSES) {
             leaves("round(" + p + ", 0)", y -> y.round(p, 0), -3);
         }
         sentence(20, "(Of several that which the call tells first; all these ahead of NONE.)");
@@ -187,8 +185,7 @@ final class PoseSentences extends Sentences {
         due("no limbs", new StringHands().basin(0), 1);
         leaves("basin(0)", y -> y.basin(0), 4);
         sentence(23, "-3.");
-        int[] bad = {-1, 8, Integer.MIN_VALUE, Integer.MAX_VALUE};
-        for (int p : bad) {
+        for (int p : NO_POSES) {
             leaves("basin(" + p + ")", y -> y.basin(p), -3);
         }
     }
@@ -198,6 +195,8 @@ final class PoseSentences extends Sentences {
         due("four of eight", told(FORK).gardens(), 4);
         due("each is the next of one", told(RING).gardens(), 0);
         due("one that rests is its own next", told("puppet 1;").gardens(), 0);
+        due("0 is next of none", told("puppet 1;rule 0 : 1 = 1;").gardens(), 1);
+        due("1 is next of 0", told("puppet 1;rule 0 : me = 0;").gardens(), 0);
         sentence(24, "How many GARDENS there are.");
         due("every second of ten limbs", told(DRAIN).gardens(), 512);
         due("all but two", told(LIMBS_10 + wheel().substring(LIMBS_10.length()).replaceAll("up .", "up 9")).gardens(), 1022);
@@ -271,6 +270,20 @@ final class PoseSentences extends Sentences {
         read(x, RING + "rule 0 : me = 0;");
         due("gardens() of another troupe", x.gardens(), 4);
         due("rests(-1) of another troupe", x.rests(-1), 0);
+        read(x, RING);
+        due("gardens() of one with strings alike", x.gardens(), 0);
+        sentence(24, all);
+        x = told("puppet 3;string 0 to 2;");
+        due("gardens()", x.gardens(), 4);
+        x.cut(0);
+        due("gardens() without strings", x.gardens(), 0);
+        x.tie(0);
+        due("gardens(), it is tied", x.gardens(), 4);
+        due("rests(1)", x.rests(1), 2);
+        x.moves(0, 1);
+        due("rests(1), from another limb", x.rests(1), 1);
+        x.moves(0, 0);
+        due("rests(1), from the first again", x.rests(1), 2);
     }
 
     private static void soonest() {
@@ -336,6 +349,7 @@ final class PoseSentences extends Sentences {
         due("soonest(1, 1)", x.soonest(1, 1), 0);
         sentence(26, "10 + k: the LIMB that is NUDGED ahead of BEAT k (NONE: none, not so many).");
         due("soonest(6, 10)", x.soonest(6, 10), 1);
+        due("soonest(7, 11)", x.soonest(7, 11), 0);
         due("not so many", x.soonest(6, 11), -1);
         due("not so many", x.soonest(6, 49), -1);
         due("none", x.soonest(4, 11), -1);
@@ -345,8 +359,7 @@ final class PoseSentences extends Sentences {
         for (int what : badWhat) {
             leaves("soonest(1, " + what + ")", y -> y.soonest(1, what), -2);
         }
-        int[] badPose = {-1, 8, Integer.MIN_VALUE, Integer.MAX_VALUE};
-        for (int p : badPose) {
+        for (int p : NO_POSES) {
             leaves("soonest(" + p + ", 49)", y -> y.soonest(p, 49), -3);
         }
         sentence(26, "(Of several that which the call tells first; all these ahead of NONE.)");
@@ -411,8 +424,7 @@ final class PoseSentences extends Sentences {
         leaves("wakes(4)", y -> y.wakes(4), 100);
         sentence(27, "NONE: none does; -3.");
         due("wakes(7)", x.wakes(7), -1);
-        int[] bad = {-1, 8, Integer.MIN_VALUE, Integer.MAX_VALUE};
-        for (int p : bad) {
+        for (int p : NO_POSES) {
             leaves("wakes(" + p + ")", y -> y.wakes(p), -3);
         }
     }
@@ -462,8 +474,7 @@ final class PoseSentences extends Sentences {
         for (int what : badWhat) {
             leaves("cure(0, " + what + ")", y -> y.cure(0, what), -2);
         }
-        int[] badPose = {-1, 8, Integer.MIN_VALUE, Integer.MAX_VALUE};
-        for (int p : badPose) {
+        for (int p : NO_POSES) {
             leaves("cure(" + p + ", 0)", y -> y.cure(p, 0), -3);
         }
         sentence(28, "(Of several that which the call tells first; all these ahead of NONE.)");

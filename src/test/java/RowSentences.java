@@ -50,8 +50,7 @@ final class RowSentences extends Sentences {
         due("all 0", x.judge(3, 2), 0);
         due("other rows stay", x.write(2, 0, 0), -7);
         sentence(46, "-2: no such ROW, sort");
-        int[] badRow = {-1, 4, Integer.MIN_VALUE, Integer.MAX_VALUE};
-        for (int row : badRow) {
+        for (int row : NO_ROWS) {
             leaves("numbers(" + row + ", 0, 1)", y -> y.numbers(row, 0, 1), -2);
         }
         int[] badSort = {-1, 4, Integer.MIN_VALUE, Integer.MAX_VALUE};
@@ -89,8 +88,7 @@ final class RowSentences extends Sentences {
         due("write(0, 2, 0)", x.write(0, 2, 0), 0);
         due("in place of it", x.judge(0, 2), 1);
         sentence(47, "-2: no such ROW; -6; -7.");
-        int[] badRow = {-1, 4, Integer.MIN_VALUE, Integer.MAX_VALUE};
-        for (int row : badRow) {
+        for (int row : NO_ROWS) {
             leaves("write(" + row + ", 0, 1)", y -> y.write(row, 0, 1), -2);
         }
         leaves("write(3, 0, 1)", y -> y.write(3, 0, 1), -6);
@@ -175,6 +173,12 @@ final class RowSentences extends Sentences {
         due("limbs", x.count(1), 1);
         due("pose", x.count(4), 1);
         due("rests of the other troupe", x.rests(-1), 2);
+        StringHands alike = told(RING);
+        alike.image(0);
+        read(alike, RING + "rule 2 : up 1 = 0;");
+        due("rests of one with strings alike", alike.rests(-1), 0);
+        alike.restore(0);
+        due("rests of the first again", alike.rests(-1), 2);
         x.nudge(0);
         due("again", x.restore(1), 0);
         due("pose", x.count(4), 1);

@@ -12,6 +12,16 @@ import java.util.function.ToLongFunction;
 abstract class Sentences {
     static final String RING = "puppet 3;string 0 to 1;string 1 to 2;string 2 to 0;";
     static final String LIMBS_10 = "puppet 6;puppet 4;";
+    /** Limbs 0 to 5 count the beats. */
+    static final String COUNTER = "puppet 6;rule 0 : me = 0;rule 1 : not me = up 0;rule 2 : not me = up 0 * up 1;"
+            + "rule 3 : not me = up 0 * up 1 * up 2;rule 4 : not me = up 0 * up 1 * up 2 * up 3;"
+            + "rule 5 : not me = up 0 * up 1 * up 2 * up 3 * up 4;";
+
+    /** Numbers of what busy() has not. */
+    static final int[] NO_LIMBS = {-1, 3, 10, 32, Integer.MIN_VALUE, Integer.MAX_VALUE};
+    static final int[] NO_STRINGS = {-1, 3, 16, 32, Integer.MIN_VALUE, Integer.MAX_VALUE};
+    static final int[] NO_POSES = {-1, 8, 15, 1024, Integer.MIN_VALUE, Integer.MAX_VALUE};
+    static final int[] NO_ROWS = {-1, 4, Integer.MIN_VALUE, Integer.MAX_VALUE};
 
     private static final Document DOC = document();
     private static int sentences;

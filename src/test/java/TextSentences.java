@@ -105,12 +105,19 @@ final class TextSentences extends Sentences {
         feedText(x, "puppet 2;life 12;");
         due("a text that ends within a number", x.troupe(15), -32);
         due("its place", x.fault(1), 15);
-        x = told(RING + "rule 0 : 1 = 1;need 1 3;up 0;life 3;");
+        feedText(x, "life 999;");
+        due("a text that ends within a number", x.troupe(7), -32);
+        x = told("puppet 3;string 1 to 0 turned;string 1 to 2;string 2 to 0;rule 0 : 1 = 1;need 1 3;up 0;up 2;life 3;");
+        x.beat(1);
+        x.nudge(2);
+        x.beat(1);
+        due("worn", x.string(2, 5), 2);
         x.cut(1);
         x.swap(0);
-        x.beat(1);
         due("another text", read(x, RING), 4);
         due("whole ones", x.count(3), 3);
+        due("from", x.string(0, 0), 0);
+        due("turned", x.string(0, 3), 0);
         due("place", x.limb(0, 8), 0);
         due("wear", x.string(2, 5), 0);
         due("need", x.limb(1, 4), 1);
@@ -119,9 +126,16 @@ final class TextSentences extends Sentences {
         due("pose", x.count(4), 0);
         due("next", x.next(1), 2);
         due("rests", x.rests(-1), 2);
+        due("another text with strings alike", read(x, RING + "rule 2 : up 1 = 0;"), 5);
+        due("rests", x.rests(-1), 0);
         due("troupe(0)", x.troupe(0), 0);
         due("limbs then", x.count(1), 0);
         due("rests then", x.rests(-1), 1);
+        for (int i = 0; i < 5; i++) {
+            due("a long text, once more", read(x, RULE_0 + "1" + "*1".repeat(200) + "-" + i + "=me;"), 2);
+            due("its rule", x.next(0), i == 1 ? 1 : 0);
+            due("its rule", x.next(1), i == 0 ? 1 : 0);
+        }
         sentence(3, "nothing can be UNDONE: how many LINES");
         x = told("puppet 1;");
         x.nudge(0);
@@ -361,6 +375,7 @@ final class TextSentences extends Sentences {
         faulty("Life 1;", 1, 0);
         faulty("lifE 1;", 2, 0);
         faulty("life E1;", 1, 5);
+        faulty("xife 1;", 2, 0);
         faulty("lifes 1;", 2, 0);
         faulty("lif 1;", 2, 0);
         faulty("\u00e9", 1, 0);

@@ -26,11 +26,14 @@ final class WorkSentences extends Sentences {
         due("a rule of the first limb is none", told("puppet 2;string 0 to 1;rule 0 : me = 1;").works(0), 2);
         due("a later rule without pulls", told("puppet 2;string 0 to 1;rule 1 : pulls = 1;rule 1 : me = 1;").works(0), 0);
         due("a later rule with pulls", told("puppet 2;string 0 to 1;rule 1 : me = 1;rule 1 : pulls = 1;").works(0), 2);
+        due("two rules with pulls", told("puppet 2;string 0 to 1;rule 1 : pulls = 1;rule 1 : pulls = 2;").works(0), 2);
         due("not backward", told("puppet 2;string 0 to 1;").works(1), 0);
         due("whatever it needs", told("puppet 2;string 0 to 1;need 1 9;").works(0), 2);
         sentence(29, "or if up of it is in that one's RULE (its own up, me are none)");
         due("up", told("puppet 2;rule 1 : up 0 = 1;").works(0), 2);
         due("deep in it", told("puppet 2;rule 1 : 1 = 2 and not [ 1 = 1 - ( 0 * up 0 ) ];").works(0), 2);
+        due("twice in it", told("puppet 2;rule 1 : up 0 + up 0 = 1;").works(0), 2);
+        due("in it, and by a string", told("puppet 2;string 0 to 1;rule 1 : pulls + up 0 = 1;").works(0), 2);
         due("its own up", told("puppet 2;rule 1 : up 1 = 1;").works(1), 0);
         due("me", told("puppet 2;rule 1 : me = 1;").works(1), 0);
         due("a later rule's up", told("puppet 2;rule 1 : up 0 = 1;rule 1 : me = 1;").works(0), 0);
@@ -50,8 +53,7 @@ final class WorkSentences extends Sentences {
         due("works(4)", x.works(4), 0);
         leaves("works(0)", y -> y.works(2), 3);
         sentence(29, "-2.");
-        int[] bad = {-1, 3, 10, Integer.MIN_VALUE, Integer.MAX_VALUE};
-        for (int l : bad) {
+        for (int l : NO_LIMBS) {
             leaves("works(" + l + ")", y -> y.works(l), -2);
         }
     }
@@ -70,8 +72,7 @@ final class WorkSentences extends Sentences {
         due("the tenth limb", told(LIMBS_10 + "string 0 to 9;rule 0 : up 9 = 1;").part(9), 513);
         leaves("part(0)", y -> y.part(0), 1);
         sentence(30, "-2.");
-        int[] bad = {-1, 3, 10, Integer.MIN_VALUE, Integer.MAX_VALUE};
-        for (int l : bad) {
+        for (int l : NO_LIMBS) {
             leaves("part(" + l + ")", y -> y.part(l), -2);
         }
     }
@@ -110,11 +111,11 @@ final class WorkSentences extends Sentences {
         sentence(32, "NONE: no CUTS do (it WORKS by RULES alone), both one; -2.");
         x = told(LINE);
         due("by a rule", x.free(2, 3), -1);
+        due("by a rule of limb 0", told("puppet 2;rule 0 : up 1 = 1;").free(1, 0), -1);
         due("by rules, one behind the other", told("puppet 3;rule 1 : up 0 = 1;rule 2 : up 1 = 1;string 0 to 2;").free(0, 2), -1);
         due("both one", x.free(1, 1), -1);
         due("both one, that does not work itself", x.free(0, 0), -1);
-        int[] bad = {-1, 3, 10, Integer.MIN_VALUE, Integer.MAX_VALUE};
-        for (int l : bad) {
+        for (int l : NO_LIMBS) {
             leaves("free(" + l + ", 0)", y -> y.free(l, 0), -2);
             leaves("free(0, " + l + ")", y -> y.free(0, l), -2);
         }
@@ -138,8 +139,7 @@ final class WorkSentences extends Sentences {
         due("the 16th", told("puppet 3;" + "string 0 to 1;".repeat(15) + "string 1 to 2;").stops(15), 4);
         leaves("stops(0)", y -> y.stops(0), 2);
         sentence(33, "-2; -5: it isn't WHOLE.");
-        int[] bad = {-1, 3, 16, Integer.MIN_VALUE, Integer.MAX_VALUE};
-        for (int k : bad) {
+        for (int k : NO_STRINGS) {
             leaves("stops(" + k + ")", y -> y.stops(k), -2);
         }
         leaves("stops(1)", y -> y.stops(1), -5);
@@ -200,8 +200,7 @@ final class WorkSentences extends Sentences {
 
     private static void scriptRefused() {
         sentence(34, "-2; -6; -4: not 1 to 12 numbers; -3: one tells others than LIMBS, UP ones that are not told.");
-        int[] badRow = {-1, 4, Integer.MIN_VALUE, Integer.MAX_VALUE};
-        for (int row : badRow) {
+        for (int row : NO_ROWS) {
             leaves("begins(" + row + ", 0)", y -> y.begins(row, 0), -2);
         }
         leaves("begins(3, 0)", y -> y.begins(3, 0), -6);
@@ -218,7 +217,7 @@ final class WorkSentences extends Sentences {
         due("one that can't be, not so many", script(12, -1).begins(0, 99), -3);
         due("missing, not so many", busy().begins(3, 99), -6);
         sentence(35, "-2; -6; -4; -3.");
-        for (int row : badRow) {
+        for (int row : NO_ROWS) {
             leaves("rehearse(" + row + ")", y -> y.rehearse(row), -2);
         }
         leaves("rehearse(3)", y -> y.rehearse(3), -6);
@@ -337,13 +336,74 @@ final class WorkSentences extends Sentences {
         due("three pairs beside one another", told("puppet 6;" + pairs).leastTangles(), 3);
         due("three pairs twice", told("puppet 6;" + pairs + pairs).leastTangles(), 12);
         due("seven limbs", told("puppet 6;puppet 1;string 0 to 6;string 1 to 5;string 2 to 4;").leastTangles(), 0);
+        due("from one limb", told("puppet 3;string 0 to 1;string 0 to 2;string 0 to 1;").leastTangles(), 0);
+        due("to one limb", told("puppet 3;string 1 to 0;string 2 to 0;string 1 to 0;").leastTangles(), 0);
         StringHands x = told("puppet 4;string 0 to 3;string 1 to 2;string 2 to 1;");
         x.cut(1);
         due("whole ones alone", x.leastTangles(), 0);
+        x.tie(1);
+        due("all again", x.leastTangles(), 1);
+        x.moves(0, 1);
+        due("asked once more", x.leastTangles(), 1);
+        x.swap(1);
+        due("whatever the places now", x.leastTangles(), 1);
+        manyStrings();
         leaves("leastTangles()", y -> y.leastTangles(), 0);
         sentence(37, "-4: more than 7 LIMBS.");
         leaves("eight limbs", () -> told("puppet 6;puppet 2;string 0 to 1;"), y -> y.leastTangles(), -4);
         due("ten limbs", told(LIMBS_10).leastTangles(), -4);
         due("seven limbs", told("puppet 6;puppet 1;").leastTangles(), 0);
+    }
+
+    /** All orders are tried here, for strings between limbs that lie far and near. */
+    private static void manyStrings() {
+        StringHands x = new StringHands();
+        for (int limbs = 3; limbs <= 7; limbs++) {
+            for (int step = 1; step < 5; step++) {
+                manyStrings(x, limbs, step);
+            }
+        }
+    }
+
+    private static void manyStrings(StringHands x, int limbs, int step) {
+        int strings = 17 - step;
+        int[] from = new int[strings];
+        int[] to = new int[strings];
+        StringBuilder t = new StringBuilder("puppet " + (limbs - 1) + ";puppet 1;");
+        for (int k = 0; k < strings; k++) {
+            from[k] = k * step % limbs;
+            to[k] = (from[k] + 1 + k * k * step % (limbs - 1)) % limbs;
+            t.append("string ").append(from[k]).append(" to ").append(to[k]).append(';');
+        }
+        read(x, t.toString());
+        int[] inOrder = {0, 1, 2, 3, 4, 5, 6};
+        int[] places = java.util.Arrays.copyOf(inOrder, limbs);
+        due("tangles of " + t, x.tangles(), tangled(from, to, places));
+        due("the fewest of " + t, x.leastTangles(), fewest(from, to, places, 0));
+    }
+
+    private static int tangled(int[] from, int[] to, int[] place) {
+        int found = 0;
+        for (int a = 0; a < from.length; a++) {
+            for (int b = 0; b < from.length; b++) {
+                found += place[from[a]] < place[from[b]] && place[to[a]] > place[to[b]] ? 1 : 0;
+            }
+        }
+        return found;
+    }
+
+    /** The places ahead of n are settled. */
+    private static int fewest(int[] from, int[] to, int[] place, int n) {
+        if (n == place.length) {
+            return tangled(from, to, place);
+        }
+        int best = Integer.MAX_VALUE;
+        for (int i = n; i < place.length; i++) {
+            int[] other = place.clone();
+            other[n] = place[i];
+            other[i] = place[n];
+            best = Math.min(best, fewest(from, to, other, n + 1));
+        }
+        return best;
     }
 }
